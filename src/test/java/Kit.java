@@ -1,0 +1,154 @@
+import java.nio.charset.StandardCharsets;
+import java.util.concurrent.Callable;
+
+/** What the tests share: feeding texts, and telling answers that are not due. */
+final class Kit {
+    static final String INDEX = "IndexOutOfBoundsException";
+    static final String ARGUMENT = "IllegalArgumentException";
+    static final String STATE = "IllegalStateException";
+    static final String UNSUPPORTED = "UnsupportedOperationException";
+    static final String NO_ELEMENT = "NoSuchElementException";
+
+    /** Two tools, three spare parts, three masters, LIMIT 50; the shop of the document's own runs. */
+    static final String SHOP = "part handle edge 1 wear 5;part head edge 3 wear 18;part joint edge 0 wear 0;"
+            + "part handle edge 2 wear 0;part head edge 3 wear 25;part head edge 5 wear 9;part handle edge 0 wear 0;"
+            + "tool 0 1 2;tool 3 4;master 2;master 3;master 7;limit 50";
+
+    private static int checked = 0;
+    private static int wrong = 0;
+
+    private Kit() {
+    }
+
+    static void due(String call, Object got, Object want) {
+        checked++;
+        if (!String.valueOf(got).equals(String.valueOf(want))) {
+            wrong++;
+            System.out.println(call + " answered " + got + ", due is " + want);
+        }
+    }
+
+    /** The call must throw just that exception. */
+    static void refused(String call, String exception, Callable<?> made) {
+        due(call, answer(made), "throws " + exception);
+    }
+
+    /** What a call answers, or which exception it throws. */
+    static String answer(Callable<?> made) {
+        try {
+            return String.valueOf(made.call());
+        } catch (Exception e) {
+            return "throws " + e.getClass().getSimpleName();
+        }
+    }
+
+    /** Ends a test: exit code 1, if an answer was not due. */
+    static void close() {
+        System.out.println(wrong == 0 ? checked + " answers are as due" : wrong + " answers are not as due");
+        if (wrong != 0) {
+            System.exit(1);
+        }
+    }
+
+    static void feed(ToolCourt x, byte[] bytes) {
+        x.end(0);
+        for (int at = 0; at < bytes.length; at += 20) {
+            x.feed(four(bytes, at), four(bytes, at + 4), four(bytes, at + 8), four(bytes, at + 12), four(bytes, at + 16));
+        }
+        x.end(bytes.length);
+    }
+
+    static void feed(ToolCourt x, String text) {
+        feed(x, text.getBytes(StandardCharsets.ISO_8859_1));
+    }
+
+    private static int four(byte[] bytes, int at) {
+        int number = 0;
+        for (int i = at; i < at + 4; i++) {
+            number = number << 8 | (i < bytes.length ? bytes[i] & 255 : 0);
+        }
+        return number;
+    }
+
+    static int shop(ToolCourt x, String text) {
+        feed(x, text);
+        return x.shop();
+    }
+
+    static int law(ToolCourt x, String text) {
+        feed(x, text);
+        return x.law();
+    }
+
+    /** A new court with these texts of the shop. */
+    static ToolCourt court(String... texts) {
+        ToolCourt x = new ToolCourt();
+        for (String text : texts) {
+            shop(x, text);
+        }
+        return x;
+    }
+
+    /** fault() of a text of the shop, read into this court; NONE, if it stands. */
+    static int shopFault(ToolCourt x, String text) {
+        feed(x, text);
+        boolean thrown = answer(x::shop).startsWith("throws " + ARGUMENT);
+        return thrown == (x.fault() != ToolCourt.NONE) ? x.fault() : -1000;
+    }
+
+    static int lawFault(ToolCourt x, String text) {
+        feed(x, text);
+        boolean thrown = answer(x::law).startsWith("throws " + ARGUMENT);
+        return thrown == (x.fault() != ToolCourt.NONE) ? x.fault() : -1000;
+    }
+
+    static String times(int n, String line) {
+        StringBuilder all = new StringBuilder();
+        for (int i = 0; i < n; i++) {
+            all.append(i == 0 ? "" : ";").append(line);
+        }
+        return all.toString();
+    }
+
+    /** All that can be asked of a court without changing it, in one text. */
+    static String portrait(ToolCourt x) {
+        StringBuilder all = new StringBuilder();
+        for (int what = 0; what <= 14; what++) {
+            all.append(x.count(what)).append(' ');
+        }
+        for (int part = 0; part < x.count(0); part++) {
+            for (int what = 0; what <= 8; what++) {
+                all.append(x.part(part, what)).append(' ');
+            }
+            for (int what = 0; what <= 3; what++) {
+                all.append(x.rule(part, what)).append(' ');
+            }
+        }
+        for (int tool = 0; tool < x.count(1); tool++) {
+            for (int what = 0; what <= 5; what++) {
+                all.append(x.tool(tool, what)).append(' ');
+            }
+        }
+        for (int master = 0; master < x.count(2); master++) {
+            all.append(x.master(master, false)).append(' ');
+        }
+        for (int deed = 0; deed < x.count(6); deed++) {
+            for (int what = 0; what <= 6; what++) {
+                all.append(x.truth(deed, what)).append(' ');
+            }
+        }
+        for (int ago = 0; ago < x.count(12); ago++) {
+            for (int what = 0; what <= 4; what++) {
+                all.append(x.log(ago, what)).append(' ');
+            }
+        }
+        for (int day = Math.max(0, x.count(5) - x.count(14)); day <= x.count(5); day++) {
+            for (int mark = 0; mark < 100; mark++) {
+                all.append(x.culprits(mark / 10, mark % 10, day)).append(' ');
+            }
+        }
+        int seed = x.seed(0);
+        x.seed(seed);
+        return all.append(seed).toString();
+    }
+}
