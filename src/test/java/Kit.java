@@ -22,10 +22,26 @@ final class Kit {
 
     static void due(String call, Object got, Object want) {
         checked++;
-        if (!String.valueOf(got).equals(String.valueOf(want))) {
+        String answered = String.valueOf(got);
+        String wanted = String.valueOf(want);
+        if (!answered.equals(wanted)) {
             wrong++;
-            System.out.println(call + " answered " + got + ", due is " + want);
+            int from = Math.max(0, differ(answered, wanted) - 20);
+            System.out.println(call + " answered " + cut(answered, from) + ", due is " + cut(wanted, from));
         }
+    }
+
+    private static int differ(String one, String other) {
+        int at = 0;
+        while (at < one.length() && at < other.length() && one.charAt(at) == other.charAt(at)) {
+            at++;
+        }
+        return at;
+    }
+
+    /** Long answers are told from shortly ahead of where they differ. */
+    private static String cut(String text, int from) {
+        return text.length() < 100 ? text : ".." + text.substring(from, Math.min(text.length(), from + 60)) + "..";
     }
 
     /** The call must throw just that exception. */
@@ -110,11 +126,12 @@ final class Kit {
         return all.toString();
     }
 
-    /** All that can be asked of a court without changing it, in one text. */
+    /** All that goes back with an ACT or THE IMAGE, in one text. */
     static String portrait(ToolCourt x) {
         StringBuilder all = new StringBuilder();
         for (int what = 0; what <= 14; what++) {
-            all.append(x.count(what)).append(' ');
+            // How many ACTS are remembered is no part of what they bring back.
+            all.append(what == 13 ? 0 : x.count(what)).append(' ');
         }
         for (int part = 0; part < x.count(0); part++) {
             for (int what = 0; what <= 8; what++) {
@@ -144,7 +161,8 @@ final class Kit {
         }
         for (int day = Math.max(0, x.count(5) - x.count(14)); day <= x.count(5); day++) {
             for (int mark = 0; mark < 100; mark++) {
-                all.append(x.culprits(mark / 10, mark % 10, day)).append(' ');
+                int set = x.culprits(mark / 10, mark % 10, day);
+                all.append(set == 0 ? "" : day + ":" + mark + "=" + set + " ");
             }
         }
         int seed = x.seed(0);
