@@ -266,7 +266,8 @@ public final class ToolCourt {
             throw new UnsupportedOperationException("there are 60 DEEDS");
         }
         memory.keepAct(now);
-        hearing.hear(now, tool, master, harm, hard);
+        hearing.hearGuilt(now, tool, master, harm, hard);
+        hearing.hearWear(now, tool, master, harm, hard);
         return commit(tool, master, harm, hard);
     }
 
@@ -393,13 +394,19 @@ public final class ToolCourt {
 
     public int word(int tool) throws IndexOutOfBoundsException {
         needTool(tool);
-        for (int heirs = 0; heirs <= MOST_TOLD; heirs++) {
-            laundry.search(now, hearing, tool, 0, heirs);
+        // With more HEIRS no way answers less, so the least word is found by halving.
+        int low = 0;
+        int high = MOST_TOLD + 1;
+        while (low < high) {
+            int middle = (low + high) / 2;
+            laundry.search(now, hearing, tool, 0, middle);
             if (laundry.fewest == NONE) {
-                return heirs;
+                high = middle;
+            } else {
+                low = middle + 1;
             }
         }
-        return NONE;
+        return low > MOST_TOLD ? NONE : low;
     }
 
     public int clean() {
@@ -590,7 +597,7 @@ public final class ToolCourt {
     public int after(int tool, int master, int harm, int hard)
             throws IndexOutOfBoundsException, IllegalArgumentException, IllegalStateException {
         needDeed(tool, master, harm, hard);
-        hearing.hear(now, tool, master, harm, hard);
+        hearing.hearGuilt(now, tool, master, harm, hard);
         return now.answered(tool) + hearing.gains(harm);
     }
 
@@ -605,7 +612,7 @@ public final class ToolCourt {
         boolean askAgain = now.law.asksHarm();
         for (int harm = 1; harm <= MOST_HARM; harm++) {
             if (harm == 1 || askAgain) {
-                hearing.hear(now, tool, master, harm, hard);
+                hearing.hearGuilt(now, tool, master, harm, hard);
             }
             if (before + hearing.gains(harm) > now.limit) {
                 return harm;
@@ -1147,10 +1154,6 @@ public final class ToolCourt {
             return parts.get(head, EDGE) * GRADE_STEP + parts.get(head, WEAR) / GRADE_STEP;
         }
 
-        boolean isNeeded(int tool, int daysOn) {
-            return daysOn >= 0 && daysOn < NEED_DAYS && inSet(tools.get(tool, NEEDS), daysOn);
-        }
-
         void need(int tool, int daysOn) {
             tools.put(tool, NEEDS, tools.get(tool, NEEDS) | 1 << daysOn);
         }
@@ -1367,14 +1370,21 @@ public final class ToolCourt {
             return court.guiltOf(part) * told(court, part, HEIRS) / 100;
         }
 
-        void hear(Court court, int tool, int master, int harm, int hard) {
+        void hearGuilt(Court court, int tool, int master, int harm, int hard) {
             for (int sort = 0; sort < SORTS; sort++) {
                 int part = court.tools.get(tool, sort);
                 boolean there = part != NONE;
                 layOut(court, part, master, harm, hard);
                 answers[sort] = there ? court.law.total(ANSWERS, facts) : 0;
                 pleads[sort] = there ? court.law.total(PLEADS, facts) : 0;
-                blunts[sort] = there ? court.law.total(BLUNTS, facts) : 0;
+            }
+        }
+
+        void hearWear(Court court, int tool, int master, int harm, int hard) {
+            for (int sort = 0; sort < SORTS; sort++) {
+                int part = court.tools.get(tool, sort);
+                layOut(court, part, master, harm, hard);
+                blunts[sort] = part == NONE ? 0 : court.law.total(BLUNTS, facts);
             }
         }
 
@@ -1477,29 +1487,25 @@ public final class ToolCourt {
     private static final class Cell {
         private final int[] order = new int[MOST_TOOLS];
         private final int[] best = new int[MOST_TOOLS];
+        private final int[] sentences = new int[MOST_TOOLS];
+        private final int[] needs = new int[MOST_TOOLS];
         private int tools;
         private int fewest;
 
         /** Afterwards fewest is MOST_CELL + 1, if all orders last longer than that many days. */
         void arrange(Court court) {
-            int guilty = court.guiltySet();
-            tools = 0;
-            for (int tool = 0; tool < court.tools.rows && tools < order.length; tool++) {
-                if (inSet(guilty, tool)) {
-                    order[tools] = tool;
-                    tools++;
-                }
-            }
+            int work = callUp(court);
             fewest = MOST_CELL + 1;
             // Six TOOLS have 720 orders; they come by numbers, so the first of the best stays.
-            boolean more = true;
+            boolean more = work <= MOST_CELL;
             for (int i = 0; i < 720 && more; i++) {
-                int days = lasts(court);
+                int days = lasts();
                 if (days < fewest) {
                     fewest = days;
                     System.arraycopy(order, 0, best, 0, order.length);
                 }
-                more = nextOrder();
+                // No order lasts less than all the work in it.
+                more = fewest > work && nextOrder();
             }
         }
 
@@ -1507,12 +1513,32 @@ public final class ToolCourt {
             return k >= 0 && k < tools && k < best.length ? best[k] : NONE;
         }
 
-        private int lasts(Court court) {
+        /** Puts the GUILTY TOOLS in their first order: how many days of work they have. */
+        private int callUp(Court court) {
+            int guilty = court.guiltySet();
+            int work = 0;
+            tools = 0;
+            for (int tool = 0; tool < court.tools.rows && tool < MOST_TOOLS; tool++) {
+                sentences[tool] = court.sentence(tool);
+                needs[tool] = court.tools.get(tool, NEEDS);
+                if (inSet(guilty, tool) && tools < order.length) {
+                    order[tools] = tool;
+                    tools++;
+                    work += sentences[tool];
+                }
+            }
+            return work;
+        }
+
+        private int lasts() {
             int day = 0;
             for (int i = 0; i < tools && i < order.length; i++) {
-                int left = court.sentence(order[i]);
+                int tool = order[i];
+                boolean there = tool >= 0 && tool < MOST_TOOLS;
+                int left = there ? sentences[tool] : 0;
+                int needed = there ? needs[tool] : 0;
                 while (left > 0 && day <= MOST_CELL) {
-                    left -= court.isNeeded(order[i], day) ? 0 : 1;
+                    left -= day < NEED_DAYS && (needed >>> day & 1) != 0 ? 0 : 1;
                     day++;
                 }
             }

@@ -753,21 +753,12 @@ final class Model {
 
     public int word(int tool) {
         index(isTool(tool));
-        if (launder(tool, -1, 100)[0] != -1) {
-            return -1;
-        }
-        // More HEIRS never help, so the least is found by halves.
-        int low = 0;
-        int high = 100;
-        while (low < high) {
-            int half = (low + high) / 2;
-            if (launder(tool, -1, half)[0] == -1) {
-                high = half;
-            } else {
-                low = half + 1;
+        for (int heirs = 0; heirs <= 100; heirs++) {
+            if (launder(tool, -1, heirs)[0] == -1) {
+                return heirs;
             }
         }
-        return low;
+        return -1;
     }
 
     public int clean() {
