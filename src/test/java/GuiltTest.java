@@ -11,6 +11,7 @@ public final class GuiltTest {
         ask();
         laundered();
         firstWay();
+        manySpare();
         guard();
         word();
         clean();
@@ -137,6 +138,28 @@ public final class GuiltTest {
         Kit.due("20: no PART, no SWAP: it answers nothing", x.laundered(0, false), 0);
     }
 
+    private static void manySpare() {
+        // Fifteen SPARE heads, of which all but the last one answer too much themselves; the TOOL has PART 7.
+        String part = "part head edge 0 wear 0";
+        ToolCourt x = Kit.court(Kit.times(14, part), part + ";" + part + ";tool 7;master 0;limit 5");
+        for (int head = 0; head < 15; head++) {
+            if (head != 7) {
+                x.swap(0, 1, head);
+                x.deed(0, 0, 6, 0);
+            }
+        }
+        x.swap(0, 1, 7);
+        x.deed(0, 0, 6, 0);
+        Kit.due("20: the last of fifteen", x.laundered(0, true), 1 << 15);
+        Kit.shop(x, "limit 0");
+        Kit.due("20: it has no GUILT", x.laundered(0, false), 1);
+        x.swap(0, 1, 0);
+        x.serve(0, 1);
+        x.swap(0, 1, 7);
+        Kit.due("20: the first of fifteen", x.laundered(0, true), 1);
+        Kit.due("49: all are SPARE but one", x.count(9), 65535 - 128);
+    }
+
     private static void guard() {
         ToolCourt x = threeGuilty();
         Kit.due("21: 0 now", x.guard(0), 0);
@@ -227,6 +250,7 @@ public final class GuiltTest {
         Kit.due("24: handle and head", x.exchange(0, 1, true), 3);
         Kit.refused("24: no TOOL", Kit.INDEX, () -> x.exchange(2, 2, true));
         Kit.refused("24: no other TOOL", Kit.INDEX, () -> x.exchange(0, -1, true));
+        Kit.refused("24: no first TOOL", Kit.INDEX, () -> x.exchange(2, 0, true));
         Kit.refused("24: both are one", Kit.ARGUMENT, () -> x.exchange(1, 1, true));
     }
 
@@ -259,8 +283,15 @@ public final class GuiltTest {
         Kit.due("28: 1 goes first", "" + x.cell(0) + x.cell(1) + x.cell(2), "10-1");
         Kit.shop(x, "need 1 1;need 3 1");
         Kit.due("28: 0 goes first", "" + x.cell(-1) + " " + x.cell(0) + x.cell(1), "15 01");
+        Kit.shop(x, "need 2 1;need 1 0");
+        Kit.due("28: 0 waits for DAY 3, 1 for DAY 4", "" + x.cell(-1) + " " + x.cell(0) + x.cell(1), "16 01");
+        Kit.shop(x, "need 3 0");
+        Kit.due("28: both wait for DAY 4: by numbers", "" + x.cell(-1) + " " + x.cell(0) + x.cell(1), "17 01");
         x.days(1);
-        Kit.due("28: from today on", "" + x.cell(-1) + " " + x.cell(0) + x.cell(1), "14 01");
+        Kit.due("28: from today on", "" + x.cell(-1) + " " + x.cell(0) + x.cell(1), "16 01");
+        ToolCourt y = Kit.court(Kit.SHOP, "need 0 0");
+        y.deed(0, 0, 400, 0);
+        Kit.due("28: needs are of 32 DAYS alone", y.cell(-1), 41);
     }
 
     private static void cellTooLong() {

@@ -46,6 +46,7 @@ public final class LawTextTest {
         fault("  tax 5", 2);
         fault("part head edge 1 wear 1", 0);
         fault("answer if head", 7);
+        fault("if 5", 0);
         fault("heir 1000", 5);
         fault("heir 0001", 5);
         fault("blunt 100", 6);
@@ -105,6 +106,13 @@ public final class LawTextTest {
         fault("heir 5 if ((((((head)))))) and not not not not not not head", -1);
         fault("heir 5 if (((((not head and not head)))))", -1);
         fault("heir 5 if (((((not head and not not head)))))", 32);
+        // Nothing of a wrong text is left for the next one, nor of a LINE for the next.
+        ToolCourt x = Kit.court(Kit.SHOP);
+        Kit.due("6: a bracket stays open", Kit.lawFault(x, "heir 5 if not (head and (nailed or not"), 38);
+        Kit.due("6: the next text", Kit.lawFault(x, "heir 5 if not (head) or wear > 99"), -1);
+        Kit.due("10: a handle", x.rule(0, 2), 5);
+        Kit.due("10: a head", x.rule(1, 2), 0);
+        Kit.due("6: six deep in each LINE", Kit.lawFault(x, "heir 1 if ((((((head))))));heir 2 if ((((((head))))));heir 4 if head)"), 68);
     }
 
     private static void withoutText() {

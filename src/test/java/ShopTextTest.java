@@ -54,6 +54,13 @@ public final class ShopTextTest {
         fault("part head wear 1", 10);
         fault("part head edge", 14);
         fault("part head edge x", 15);
+        fault("part head edge 1", 16);
+        fault("part head edge 1 wear", 21);
+        fault("part nailed edge 1 wear 1", 5);
+        fault("partz head edge 1 wear 1", 0);
+        fault("part head edge 1 wear 1zebra", 23);
+        fault("damp", 4);
+        fault("need", 4);
         fault("part head edge 10", 15);
         fault("part head edge 00001", 15);
         fault("part head edge 1 edge 1", 17);

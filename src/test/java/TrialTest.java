@@ -31,7 +31,7 @@ public final class TrialTest {
     private static void span() {
         ToolCourt x = Kit.court("damp 50;part head edge 0 wear 0;part head edge 9 wear 10");
         x.seed(77);
-        for (int n : new int[] {0, 1, 2, 7, 60}) {
+        for (int n = 0; n <= 60; n++) {
             int least = Integer.MAX_VALUE;
             int most = 0;
             for (int seed = 1; seed <= 6; seed++) {
@@ -42,6 +42,17 @@ public final class TrialTest {
             }
             Kit.due("38: the fewest of " + n, x.span(n, false), least);
             Kit.due("38: the most of " + n, x.span(n, true), most);
+        }
+        for (int damp = 10; damp < 100; damp += 10) {
+            Kit.shop(x, "damp " + damp);
+            int[] wear = new int[7];
+            for (int seed = 1; seed <= 6; seed++) {
+                x.seed(seed);
+                wear[seed] = x.trial(1);
+                wear[0] = Math.max(wear[0], wear[seed]);
+            }
+            x.seed(77);
+            Kit.due("38: the most of one DAY, DAMP " + damp, x.span(1, true), wear[0]);
         }
         Kit.due("38: they differ", x.span(60, false) < x.span(60, true), true);
         Kit.due("38: SEED stays", x.seed(77), 77);
@@ -96,6 +107,9 @@ public final class TrialTest {
         Kit.refused("40: HARD -1", Kit.ARGUMENT, () -> x.worst(1, 0, -1));
         Kit.refused("40: HARD 10", Kit.ARGUMENT, () -> x.worst(1, 0, 10));
         Kit.refused("40: no head", Kit.STATE, () -> x.worst(1, 0, 9));
+        ToolCourt z = Kit.court(Kit.SHOP);
+        z.deed(0, 0, 50, 0);
+        Kit.due("40: it ANSWERS just LIMIT", z.worst(0, 0, 0), 1);
         ToolCourt y = Kit.court(Kit.SHOP, "limit 998");
         Kit.due("40: the most", y.worst(0, 0, 0), 999);
         Kit.shop(y, "limit 999");

@@ -5,6 +5,7 @@ public final class TruthTest {
         strokes();
         harmed();
         joint();
+        jointOfThree();
         clock();
         together();
         heir();
@@ -50,6 +51,12 @@ public final class TruthTest {
         Kit.due("26: DEEDS of the other", x.strokes(4, false), 2);
         Kit.due("26: the most on one DAY of the other", x.strokes(4, true), 1);
         Kit.due("26: a SPARE one", x.strokes(5, false), 0);
+        ToolCourt y = Kit.court(Kit.SHOP);
+        y.deed(0, 0, 1, 0);
+        y.deed(0, 0, 1, 0);
+        y.days(1);
+        y.deed(0, 0, 1, 0);
+        Kit.due("26: the most on the first DAY", y.strokes(0, true), 2);
         Kit.refused("26: no PART", Kit.INDEX, () -> x.strokes(7, true));
         Kit.refused("26: PART -1", Kit.INDEX, () -> x.strokes(-1, false));
     }
@@ -91,8 +98,24 @@ public final class TruthTest {
         x.swap(1, 1, -1);
         Kit.due("29: SPARE ones, too", x.joint(0, 1), 116);
         Kit.refused("29: no TOOL", Kit.INDEX, () -> x.joint(2, 2));
+        Kit.refused("29: no first TOOL", Kit.INDEX, () -> x.joint(2, 0));
         Kit.refused("29: no other TOOL", Kit.INDEX, () -> x.joint(0, -1));
         Kit.refused("29: both are one", Kit.ARGUMENT, () -> x.joint(1, 1));
+    }
+
+    private static void jointOfThree() {
+        ToolCourt x = Kit.court("part head edge 0 wear 0;part head edge 0 wear 0;part handle edge 0 wear 0;tool 0;tool 1;tool 2;master 0");
+        x.deed(0, 0, 7, 0);
+        x.deed(1, 0, 5, 0);
+        x.swap(1, 1, -1);
+        x.swap(2, 1, 1);
+        x.deed(2, 0, 20, 0);
+        x.swap(0, 1, -1);
+        x.swap(1, 1, 0);
+        x.deed(1, 0, 100, 0);
+        Kit.due("29: PART 0 did something in 0 and 1", x.joint(0, 1), 107);
+        Kit.due("29: PART 1 did something in 1 and 2", x.joint(1, 2), 25);
+        Kit.due("29: none in 0 and 2", x.joint(0, 2), 0);
     }
 
     private static void clock() {
@@ -170,6 +193,14 @@ public final class TruthTest {
         Kit.due("32: what came in all", x.heir(), 6);
         x.serve(0, 99);
         Kit.due("32: though it is served", x.heir(), 6);
+        ToolCourt y = Kit.court(Kit.SHOP);
+        Kit.law(y, "answer 1 if handle");
+        y.deed(0, 0, 100, 0);
+        y.swap(0, 0, 6);
+        Kit.law(y, "answer 1 if handle;heir 100");
+        y.deed(0, 0, 100, 0);
+        y.swap(0, 0, 0);
+        Kit.due("32: PART 0, by 1", y.heir(), 0);
     }
 
     private static void alibi() {
@@ -201,6 +232,9 @@ public final class TruthTest {
         Kit.due("35: of several the least", x.worstMaster(), 1);
         x.deed(1, 2, 1, 0);
         Kit.due("35: HARM together", x.worstMaster(), 2);
+        ToolCourt y = Kit.court(Kit.SHOP);
+        y.deed(0, 0, 1, 0);
+        Kit.due("35: MASTER 0, by 1", y.worstMaster(), 0);
     }
 
     private static void pairs() {
@@ -287,6 +321,10 @@ public final class TruthTest {
         Kit.due("44: that of the head is the oldest", x.led(1), 1);
         Kit.due("44: the other head's", x.led(5), 30);
         Kit.due("43: the latest", x.log(0, 2), 38);
+        for (int i = 0; i < 29; i++) {
+            Kit.due("43: each row of the heads", x.log(2 * i, 1) + " " + x.log(2 * i, 2) + " " + x.log(2 * i, 3), "5 " + (38 - i) + " " + (29 - i));
+            Kit.due("43: each row of the handles", x.log(2 * i + 1, 1) + " " + x.log(2 * i + 1, 2), "0 " + (38 - i) / 2);
+        }
         x.undo();
         Kit.due("44: undone, the row is back", x.led(0), 29);
         Kit.due("43: undone, the latest", x.log(0, 2), 37);
