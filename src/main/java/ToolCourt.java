@@ -123,14 +123,12 @@ public final class ToolCourt {
     private static final String WORDS =
             "handle head joint nailed edge wear guilt harm hard master day tool answer plead heir blunt if and or not part nail damp need limit ";
     private static final int W_HANDLE = 300;
-    private static final int W_JOINT = 302;
     private static final int W_NAILED = 303;
     private static final int W_EDGE = 304;
     private static final int W_WEAR = 305;
     private static final int W_MASTER = 309;
     private static final int W_TOOL = 311;
     private static final int W_ANSWER = 312;
-    private static final int W_BLUNT = 315;
     private static final int W_IF = 316;
     private static final int W_AND = 317;
     private static final int W_OR = 318;
