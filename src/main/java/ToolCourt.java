@@ -395,7 +395,7 @@ public final class ToolCourt {
         // With more HEIRS no way answers less, so the least word is found by halving.
         int low = 0;
         int high = MOST_TOLD + 1;
-        while (low < high) {
+        for (int i = 0; i <= MOST_TOLD && low < high; i++) {
             int middle = (low + high) / 2;
             laundry.search(now, hearing, tool, 0, middle);
             if (laundry.fewest == NONE) {
