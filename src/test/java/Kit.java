@@ -125,48 +125,4 @@ final class Kit {
         }
         return all.toString();
     }
-
-    /** All that goes back with an ACT or THE IMAGE, in one text. */
-    static String portrait(ToolCourt x) {
-        StringBuilder all = new StringBuilder();
-        for (int what = 0; what <= 14; what++) {
-            // How many ACTS are remembered is no part of what they bring back.
-            all.append(what == 13 ? 0 : x.count(what)).append(' ');
-        }
-        for (int part = 0; part < x.count(0); part++) {
-            for (int what = 0; what <= 8; what++) {
-                all.append(x.part(part, what)).append(' ');
-            }
-            for (int what = 0; what <= 3; what++) {
-                all.append(x.rule(part, what)).append(' ');
-            }
-        }
-        for (int tool = 0; tool < x.count(1); tool++) {
-            for (int what = 0; what <= 5; what++) {
-                all.append(x.tool(tool, what)).append(' ');
-            }
-        }
-        for (int master = 0; master < x.count(2); master++) {
-            all.append(x.master(master, false)).append(' ');
-        }
-        for (int deed = 0; deed < x.count(6); deed++) {
-            for (int what = 0; what <= 6; what++) {
-                all.append(x.truth(deed, what)).append(' ');
-            }
-        }
-        for (int ago = 0; ago < x.count(12); ago++) {
-            for (int what = 0; what <= 4; what++) {
-                all.append(x.log(ago, what)).append(' ');
-            }
-        }
-        for (int day = Math.max(0, x.count(5) - x.count(14)); day <= x.count(5); day++) {
-            for (int mark = 0; mark < 100; mark++) {
-                int set = x.culprits(mark / 10, mark % 10, day);
-                all.append(set == 0 ? "" : day + ":" + mark + "=" + set + " ");
-            }
-        }
-        int seed = x.seed(0);
-        x.seed(seed);
-        return all.append(seed).toString();
-    }
 }

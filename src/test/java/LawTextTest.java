@@ -6,7 +6,8 @@ public final class LawTextTest {
         depth();
         withoutText();
         sums();
-        conditions();
+        atoms();
+        joinedAtoms();
         factsOfADeed();
         wrongInputs();
         Kit.close();
@@ -144,9 +145,13 @@ public final class LawTextTest {
         return set;
     }
 
-    private static void conditions() {
-        // PARTS 0, 3, 6 handles, 1, 4, 5 heads, 2 a joint; WEAR 5, 18, 0, 0, 25, 9, 0; EDGE 1, 3, 0, 2, 3, 5, 0
-        ToolCourt x = Kit.court(Kit.SHOP, "nail 0;nail 4");
+    /** PARTS 0, 3, 6 handles, 1, 4, 5 heads, 2 a joint; WEAR 5, 18, 0, 0, 25, 9, 0; EDGE 1, 3, 0, 2, 3, 5, 0. */
+    private static ToolCourt nailedCourt() {
+        return Kit.court(Kit.SHOP, "nail 0;nail 4");
+    }
+
+    private static void atoms() {
+        ToolCourt x = nailedCourt();
         Kit.due("10: handle", holds(x, "handle"), 73);
         Kit.due("10: head", holds(x, "head"), 50);
         Kit.due("10: joint", holds(x, "joint"), 4);
@@ -161,6 +166,16 @@ public final class LawTextTest {
         Kit.due("10: tool < 1", holds(x, "tool < 1"), 103);
         Kit.due("10: day > 0", holds(x, "day > 0"), 0);
         Kit.due("10: harm + hard + master > 0", holds(x, "harm + hard + master > 0"), 0);
+        x.deed(0, 0, 5, 0);
+        x.days(2);
+        Kit.due("10: day > 1", holds(x, "day > 1"), 127);
+        Kit.law(x, "answer 100 if head");
+        x.deed(0, 0, 5, 0);
+        Kit.due("10: guilt > 4", holds(x, "guilt > 4"), 2);
+    }
+
+    private static void joinedAtoms() {
+        ToolCourt x = nailedCourt();
         Kit.due("10: and ahead of or", holds(x, "joint or head and wear > 9"), 22);
         Kit.due("10: and ahead of or, the other way", holds(x, "head and wear > 9 or joint"), 22);
         Kit.due("10: or in brackets", holds(x, "(joint or head) and wear > 9"), 18);
@@ -174,12 +189,6 @@ public final class LawTextTest {
         Kit.due("10: or, and, or", holds(x, "joint or handle and nailed or edge > 4"), 37);
         Kit.due("10: three ands", holds(x, "head and wear > 1 and edge < 4 and nailed"), 16);
         Kit.due("10: deep", holds(x, "(joint or (head and (nailed or (wear < 10 and (edge > 4 or handle)))))"), 52);
-        x.deed(0, 0, 5, 0);
-        x.days(2);
-        Kit.due("10: day > 1", holds(x, "day > 1"), 127);
-        Kit.law(x, "answer 100 if head");
-        x.deed(0, 0, 5, 0);
-        Kit.due("10: guilt > 4", holds(x, "guilt > 4"), 2);
     }
 
     private static void factsOfADeed() {

@@ -9,14 +9,16 @@ import java.util.Random;
 
 /** Long runs of calls, drawn from fixed seeds, on ToolCourt and on Model: every answer must be the same. */
 public final class ModelTest {
-    private static final int RUNS = 400;
-    private static final int CALLS = 500;
+    private static final int RUNS = 500;
+    /** Nothing is promised about an object behind its 512th call. */
+    private static final int MOST_CALLS = 512;
 
     private final Random random;
     private final ToolCourt court = new ToolCourt();
     private final Model model = new Model();
     private final List<String> made = new ArrayList<>();
     private final int mostHarm;
+    private int calls;
     private boolean wrong;
 
     private ModelTest(int seed) {
@@ -52,7 +54,7 @@ public final class ModelTest {
         if (random.nextBoolean()) {
             text("law", "answer " + (20 + random.nextInt(80)) + ";" + lawText());
         }
-        for (int call = 0; call < CALLS && !wrong; call++) {
+        while (calls < MOST_CALLS && !wrong) {
             int dice = random.nextInt(100);
             if (dice < 2) {
                 text("shop", random.nextInt(3) == 0 ? spoiled(shopText()) : shopText());
@@ -92,15 +94,15 @@ public final class ModelTest {
     }
 
     private int tool() {
-        return below(court.count(1));
+        return below(model.count(1));
     }
 
     private int master() {
-        return below(court.count(2));
+        return below(model.count(2));
     }
 
     private int part() {
-        return below(court.count(0));
+        return below(model.count(0));
     }
 
     private int harm() {
@@ -108,9 +110,9 @@ public final class ModelTest {
     }
 
     private int spare(int sort) {
-        for (int tries = 0; tries < 20 && court.count(0) > 0; tries++) {
-            int part = random.nextInt(court.count(0));
-            if (court.part(part, 0) == sort && court.part(part, 6) == -1) {
+        for (int tries = 0; tries < 20 && model.count(0) > 0; tries++) {
+            int part = random.nextInt(model.count(0));
+            if (model.part(part, 0) == sort && model.part(part, 6) == -1) {
                 return part;
             }
         }
@@ -119,9 +121,9 @@ public final class ModelTest {
 
     /** EDGE or GRADE of a TOOL's head, if there is one. */
     private int ofSomeHead(int what) {
-        int tool = court.count(1) == 0 ? -1 : random.nextInt(court.count(1));
-        int head = tool == -1 ? -1 : court.tool(tool, 1);
-        return head == -1 || random.nextInt(5) == 0 ? below(10) : what == 1 ? court.part(head, 1) : court.part(head, 2) / 10;
+        int tool = model.count(1) == 0 ? -1 : random.nextInt(model.count(1));
+        int head = tool == -1 ? -1 : model.tool(tool, 1);
+        return head == -1 || random.nextInt(5) == 0 ? below(10) : what == 1 ? model.part(head, 1) : model.part(head, 2) / 10;
     }
 
     private void any(Method method) throws Exception {
@@ -162,13 +164,13 @@ public final class ModelTest {
             case "count0" -> below(15);
             case "culprits0", "sure0" -> ofSomeHead(1);
             case "culprits1", "clock1" -> ofSomeHead(2);
-            case "culprits2", "alibi1", "harmed0", "harmed1" -> Math.max(0, court.count(5) - random.nextInt(40) + 3);
+            case "culprits2", "alibi1", "harmed0", "harmed1" -> Math.max(0, model.count(5) - random.nextInt(40) + 3);
             case "after2", "deed2" -> harm();
             case "after3", "worst2", "deed3" -> below(10);
             case "days0" -> below(61);
             case "trial0", "span0" -> random.nextInt(61);
-            case "truth0" -> below(court.count(6));
-            case "log0" -> below(court.count(12));
+            case "truth0" -> below(model.count(6));
+            case "log0" -> below(model.count(12));
             case "jury0" -> random.nextInt(64);
             case "serve1" -> 1 + random.nextInt(random.nextBoolean() ? 99 : 5);
             case "end0" -> random.nextInt(40);
@@ -200,6 +202,10 @@ public final class ModelTest {
     }
 
     private void call(String name, Object... arguments) throws Exception {
+        if (calls == MOST_CALLS) {
+            return;
+        }
+        calls++;
         String told = name + java.util.Arrays.toString(arguments);
         String got = answer(court, name, arguments);
         String want = answer(model, name, arguments);
@@ -242,9 +248,9 @@ public final class ModelTest {
         for (int i = 0; i < 4; i++) {
             StringBuilder line = new StringBuilder("tool");
             int sorts = 0;
-            for (int part = 0; part < court.count(0); part++) {
-                int sort = court.part(part, 0);
-                boolean fits = court.part(part, 6) == -1 && (sorts >> sort & 1) == 0;
+            for (int part = 0; part < model.count(0); part++) {
+                int sort = model.part(part, 0);
+                boolean fits = model.part(part, 6) == -1 && (sorts >> sort & 1) == 0;
                 if (fits && random.nextInt(3) > 0) {
                     line.append(' ').append(part);
                     sorts |= 1 << sort;

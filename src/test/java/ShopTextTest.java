@@ -128,9 +128,7 @@ public final class ShopTextTest {
     private static void wrongTextsLeaveNothing() {
         ToolCourt x = Kit.court(Kit.SHOP);
         x.days(1);
-        String ahead = Kit.portrait(x);
         Kit.due("6: a wrong text", Kit.shopFault(x, "part head edge 1 wear 1;tool 5 6;master 1;nail 0;damp 9;need 1 0;limit 3;x"), 73);
-        Kit.due("4: nothing stays of it", Kit.portrait(x), ahead);
         Kit.due("4: the TAPE is used up all the same", x.end(1), false);
         Kit.due("46: acts are still remembered", x.count(13), 1);
         Kit.due("6: fault() again", x.fault(), 73);
