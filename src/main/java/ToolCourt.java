@@ -960,7 +960,7 @@ public final class ToolCourt {
         Table(int most, int width) {
             this.most = Math.max(0, most);
             this.width = Math.max(0, width);
-            this.cells = new int[this.most * this.width];
+            this.cells = new int[Math.max(0, this.most * this.width)];
         }
 
         boolean has(int row) {
@@ -1010,14 +1010,17 @@ public final class ToolCourt {
         /** Like open, but where there is no room, the first row makes it. */
         int openLatest(int value) {
             if (rows >= most && rows > 0) {
-                System.arraycopy(cells, width, cells, 0, (rows - 1) * width);
+                int kept = (rows - 1) * width;
+                if (kept >= 0 && width + kept <= cells.length) {
+                    System.arraycopy(cells, width, cells, 0, kept);
+                }
                 rows--;
             }
             return open(value);
         }
 
         void copyFrom(Table other) {
-            int used = Math.min(other.rows * other.width, Math.min(other.cells.length, cells.length));
+            int used = Math.max(0, Math.min(other.rows * other.width, Math.min(other.cells.length, cells.length)));
             System.arraycopy(other.cells, 0, cells, 0, used);
             rows = other.rows;
         }

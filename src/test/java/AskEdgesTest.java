@@ -17,6 +17,8 @@ public final class AskEdgesTest {
         askTies();
         launderedAtLimit();
         firstOfTheWays();
+        secondSpareOne();
+        heirsOfTheOneThatGoes();
         noWay();
         guardEdges();
         wordEdges();
@@ -32,6 +34,7 @@ public final class AskEdgesTest {
         cellOf64();
         cellNeeds();
         cellFirstOrder();
+        cellLastOrder();
         jointEdges();
         clockEdges();
         togetherEdges();
@@ -181,6 +184,36 @@ public final class AskEdgesTest {
         x.nail(1, false);
         x.nail(0, true);
         Kit.due("20: the handle instead", x.laundered(0, false) + " " + x.laundered(0, true), "1 " + (1 << 5));
+    }
+
+    /** One SWAP is one, whichever SPARE PART comes: the first of each SORT has too much itself. */
+    private static void secondSpareOne() {
+        for (int sort = 0; sort < 3; sort++) {
+            ToolCourt x = Kit.court(NINE, "tool 0 1 2;tool 3 4 5;master 0;limit 15");
+            Kit.law(x, "answer 10 if " + new String[] {"handle", "head", "joint"}[sort]);
+            x.deed(0, 0, 160, 0);
+            x.deed(1, 0, 160, 0);
+            Kit.law(x, "heir 0");
+            x.swap(1, sort, -1);
+            Kit.due("20: the second of SORT " + sort, x.laundered(0, false) + " " + x.laundered(0, true), "1 " + (1 << sort + 6));
+            Kit.due("21: its SORT alone", x.guard(0), 1 << sort);
+            Kit.due("23: it can be LAUNDERED", x.clean(), 1);
+            x.nail(sort, true);
+            Kit.due("23: NAILED", x.clean(), 0);
+        }
+    }
+
+    /** HEIRS are asked of the PART that goes, in its TOOL, not of the SPARE one that comes. */
+    private static void heirsOfTheOneThatGoes() {
+        ToolCourt x = Kit.court("part head edge 1 wear 5;part head edge 2 wear 6;tool 0;master 0", "part handle edge 0 wear 0;tool 2;limit 3");
+        x.swap(0, 1, -1);
+        x.swap(1, 1, 0);
+        x.deed(1, 0, 10, 0);
+        Kit.law(x, "heir 100 if edge > 1 or tool < 1 or wear + guilt < 15");
+        Kit.due("20: nothing goes over", x.laundered(1, false) + " " + x.laundered(1, true), "1 2");
+        Kit.law(x, "heir 40 if edge < 2 and tool > 0 and wear + guilt > 15 and harm + hard + master < 1");
+        Kit.due("20: 4 of 10 do", x.laundered(1, false), -1);
+        Kit.due("12: as they go", x.swap(1, 1, 1), 4);
     }
 
     private static void noWay() {
@@ -459,6 +492,24 @@ public final class AskEdgesTest {
         Kit.due("28: from today on", turns(x), "4: 2 4 5 1 -1");
         x.days(1);
         Kit.due("28: from today on, a DAY later", turns(x), "4: 2 4 1 5 -1");
+    }
+
+    /** Of the 720 orders of six TOOLS the last one alone lasts no DAY longer than the work in it. */
+    private static void cellLastOrder() {
+        ToolCourt x = Kit.court(SIX_HEADS, "tool 0;tool 1;tool 2;tool 3;tool 4;tool 5;master 0");
+        for (int tool = 0; tool < 6; tool++) {
+            x.deed(tool, 0, 1, 0);
+        }
+        for (int tool = 0; tool < 5; tool++) {
+            StringBuilder needs = new StringBuilder("need 0 " + tool);
+            for (int day = 1; day < 5 - tool; day++) {
+                needs.append(";need ").append(day).append(' ').append(tool);
+            }
+            Kit.shop(x, needs.toString());
+        }
+        Kit.due("28: by numbers from above", turns(x) + " " + x.cell(5), "6: 5 4 3 2 1 0");
+        Kit.shop(x, "need 0 5");
+        Kit.due("28: one DAY is lost by 4 and by 5", turns(x), "7: 4 3 2 1 0");
     }
 
     private static String turns(ToolCourt x) {

@@ -396,6 +396,10 @@ public final class TextEdgesTest {
                 shop(text + ";", text.length());
             }
         }
+        for (String line : new String[] {"nail", "tool", "need", "need 0", "master", "limit", "damp", "part", "part head edge"}) {
+            String told = PART + ";" + PART + ";tool 0;need 1 0;nail 0;" + line;
+            shop(told, told.length());
+        }
         String[] things = {"heir", " 5 if", " (", " not", " edge +", " 1", " <", " 2 +", " wear", " and", " head", " or", " nailed"};
         StringBuilder text = new StringBuilder("plead 1;");
         law(text.toString(), text.length());
