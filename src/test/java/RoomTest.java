@@ -3,12 +3,12 @@ import java.lang.management.ManagementFactory;
 import java.util.function.Consumer;
 
 /**
- * LANGUAGE.md's rule 12: what a run makes is kept small. 512 times the dearest call of each kind must stay far below
- * the room of a run (7.3 million fields and elements).
+ * LANGUAGE.md's rule 12: what a run makes is kept small. A run of 512 of the dearest calls of each kind must stay far
+ * below its room (7.3 million fields and elements); fifteen are made, as feeding a text takes up to twenty calls more.
  */
 public final class RoomTest {
-    private static final int CALLS = 512;
-    private static final long BYTES_OF_A_RUN = 4_000_000;
+    private static final int CALLS = 15;
+    private static final long BYTES_OF_A_CALL = 8_000;
     /** A court with all that it can remember: thirteen times all rows, and what the texts are read with. */
     private static final long BYTES_OF_A_COURT = 120_000;
 
@@ -41,7 +41,7 @@ public final class RoomTest {
                 call.accept(x);
             }
         });
-        Kit.due("rule 12: " + name + " uses little room (" + used + " bytes)", used < BYTES_OF_A_RUN, true);
+        Kit.due("rule 12: " + name + " uses little room (" + used + " bytes)", used / CALLS < BYTES_OF_A_CALL, true);
     }
 
     private static ToolCourt busy() {
