@@ -1533,8 +1533,8 @@ public final class ToolCourt {
 
         private int lasts() {
             int day = 0;
-            for (int i = 0; i < tools && i < order.length; i++) {
-                int tool = order[i];
+            for (int i = 0; i < tools; i++) {
+                int tool = toolAt(i);
                 boolean there = tool >= 0 && tool < MOST_TOOLS;
                 int left = there ? sentences[tool] : 0;
                 int needed = there ? needs[tool] : 0;
@@ -1549,14 +1549,14 @@ public final class ToolCourt {
         /** Puts the next order by numbers in place; false behind the last one. */
         private boolean nextOrder() {
             int at = tools - 2;
-            while (at >= 0 && at + 1 < order.length && order[at] > order[at + 1]) {
+            while (at >= 0 && toolAt(at) > toolAt(at + 1)) {
                 at--;
             }
             if (at < 0) {
                 return false;
             }
             int next = tools - 1;
-            while (next > at && next < order.length && order[next] < order[at]) {
+            while (next > at && toolAt(next) < toolAt(at)) {
                 next--;
             }
             exchangeTurns(at, next);
@@ -1564,6 +1564,10 @@ public final class ToolCourt {
                 exchangeTurns(low, high);
             }
             return true;
+        }
+
+        private int toolAt(int turn) {
+            return turn >= 0 && turn < order.length ? order[turn] : NONE;
         }
 
         private void exchangeTurns(int one, int other) {

@@ -9,7 +9,7 @@ import java.util.Random;
 
 /** Long runs of calls, drawn from fixed seeds, on ToolCourt and on Model: every answer must be the same. */
 public final class ModelTest {
-    private static final int RUNS = 500;
+    private static final int RUNS = 600;
     /** Nothing is promised about an object behind its 512th call. */
     private static final int MOST_CALLS = 512;
 
@@ -38,7 +38,11 @@ public final class ModelTest {
         methods.sort(Comparator.comparing(Method::getName));
         for (int seed = first; seed < first + runs; seed++) {
             ModelTest run = new ModelTest(seed);
-            run.play(methods);
+            if (seed % 3 == 0) {
+                run.playCrowded();
+            } else {
+                run.play(methods);
+            }
             if (run.wrong) {
                 System.out.println("run " + seed + ":");
                 run.made.forEach(System.out::println);
@@ -86,6 +90,127 @@ public final class ModelTest {
                 any(methods.get(random.nextInt(methods.size())));
             }
         }
+    }
+
+    /** A court where nearly all is there, so that few calls are refused and many ways are open. */
+    private void playCrowded() throws Exception {
+        crowd();
+        while (calls < MOST_CALLS && !wrong) {
+            for (int i = random.nextInt(12); i > 0; i--) {
+                actOfCrowd();
+            }
+            if (random.nextInt(3) == 0) {
+                text("shop", "limit " + Math.min(9999, limitOfCrowd()) + needsOfCrowd());
+            }
+            if (random.nextInt(4) == 0) {
+                text("law", lawOfCrowd());
+            }
+            if (random.nextInt(4) == 0) {
+                call("image");
+            } else if (random.nextInt(9) == 0) {
+                call("back");
+            }
+            askCrowd();
+        }
+    }
+
+    /** Sixteen PARTS: the first twelve stand in four TOOLS, if none is left out, the others are SPARE. */
+    private void crowd() throws Exception {
+        String[] sorts = {"handle", "head", "joint"};
+        StringBuilder text = new StringBuilder();
+        for (int i = 0; i < 16; i++) {
+            text.append(i == 0 || i == 14 ? "" : ";");
+            text.append("part ").append(sorts[i % 3]).append(" edge ").append(random.nextInt(3));
+            text.append(" wear ").append(random.nextInt(random.nextBoolean() ? 25 : 100));
+            if (i == 13) {
+                text("shop", text.toString());
+                text.setLength(0);
+            }
+        }
+        for (int i = 0; i < 4; i++) {
+            text.append(";tool ").append(3 * i + 1);
+            text.append(random.nextInt(9) == 0 ? "" : " " + 3 * i).append(random.nextInt(9) == 0 ? "" : " " + (3 * i + 2));
+        }
+        for (int i = 0; i < 4; i++) {
+            text.append(";master ").append(random.nextInt(6));
+        }
+        text("shop", text + ";damp " + random.nextInt(101));
+        text("law", lawOfCrowd());
+    }
+
+    private String lawOfCrowd() {
+        StringBuilder text = new StringBuilder("answer " + random.nextInt(101));
+        for (int i = random.nextInt(4); i > 0; i--) {
+            text.append(";answer ").append(random.nextInt(60)).append(" if ").append(condition(0));
+        }
+        for (int i = random.nextInt(3); i > 0; i--) {
+            text.append(";heir ").append(random.nextInt(60)).append(random.nextBoolean() ? "" : " if " + condition(0));
+        }
+        text.append(";plead ").append(random.nextInt(60)).append(" if ").append(condition(0));
+        return text.append(";blunt ").append(random.nextInt(4)).toString();
+    }
+
+    /** A LIMIT that some TOOLS keep and others do not. */
+    private int limitOfCrowd() {
+        int one = model.tool(random.nextInt(model.count(1)), 3);
+        int other = model.tool(random.nextInt(model.count(1)), 3);
+        return random.nextInt(4) == 0 ? one : (one + other) / (1 + random.nextInt(4));
+    }
+
+    private String needsOfCrowd() {
+        StringBuilder text = new StringBuilder();
+        for (int i = random.nextInt(9); i > 0; i--) {
+            text.append(";need ").append(random.nextInt(random.nextBoolean() ? 32 : 9)).append(' ').append(random.nextInt(4));
+        }
+        return text.toString();
+    }
+
+    private void actOfCrowd() throws Exception {
+        int dice = random.nextInt(20);
+        if (dice < 10) {
+            call("deed", random.nextInt(4), random.nextInt(4), harm(), random.nextInt(10));
+        } else if (dice < 14) {
+            int sort = random.nextInt(3);
+            call("swap", random.nextInt(4), sort, random.nextInt(9) == 0 ? -1 : spare(sort));
+        } else if (dice < 15) {
+            call("nail", random.nextInt(16), random.nextInt(3) > 0);
+        } else if (dice < 16) {
+            call("serve", random.nextInt(4), 1 + random.nextInt(random.nextBoolean() ? 20 : 99));
+        } else if (dice < 17) {
+            call("grind", random.nextInt(16));
+        } else if (dice < 19) {
+            call("days", 1 + random.nextInt(random.nextInt(5) == 0 ? 12 : 2));
+        } else {
+            call("undo");
+        }
+    }
+
+    private void askCrowd() throws Exception {
+        int tool = random.nextInt(4);
+        call("laundered", tool, false);
+        call("laundered", tool, true);
+        call("guard", tool);
+        call("word", tool);
+        call("worst", tool, random.nextInt(4), random.nextInt(10));
+        call("after", tool, random.nextInt(4), harm(), random.nextInt(10));
+        for (int other = 0; other < 4; other++) {
+            call("exchange", tool, other, false);
+            call("exchange", tool, other, true);
+            call("joint", tool, other);
+        }
+        call("clean");
+        for (int k = -1; k < 4; k++) {
+            call("cell", k);
+        }
+        call("jury", random.nextInt(16), tool);
+        int head = 1 + 3 * random.nextInt(5);
+        call("clock", head, below(10), random.nextBoolean());
+        call("with", random.nextInt(16));
+        call("strokes", random.nextInt(16), random.nextBoolean());
+        call("sure", random.nextInt(3));
+        call("led", random.nextInt(16));
+        call("part", random.nextInt(16), 8);
+        call("culprits", ofSomeHead(1), ofSomeHead(2), Math.max(0, model.count(5) - random.nextInt(4)));
     }
 
     /** Mostly a number that is one of so many. */
